@@ -1879,7 +1879,7 @@ public final class MapFramer {
                 useField(op, operand());
             } else if (op == Op.CALL) {
                 enter();
-            } else if (op != Op.BEGIN) {
+            } else {
                 useObject(op);
             }
         }
@@ -2128,6 +2128,9 @@ public final class MapFramer {
 
         private void useObject(int op) {
             switch (op) {
+                case Op.BEGIN:
+                    call.pop();
+                    break;
                 case Op.NEW:
                     pushMade(World.OBJECT + operand(), World.MOST_FIELDS);
                     break;

@@ -95,7 +95,8 @@ final class Kit {
         text.append('|');
         for (int k = 100; k < 113; k++) {
             try {
-                text.append(' ').append(framer.typeAt(method, place, k));
+                int type = framer.typeAt(method, place, k);
+                text.append(' ').append(type);
             } catch (IndexOutOfBoundsException e) {
                 return text.toString();
             }
