@@ -273,7 +273,6 @@ public final class MapFramer {
         static final int PUSH_NULL = 1;
         static final int PUSH_MINUS_ONE = 2;
         static final int PUSH_ZERO = 3;
-        static final int PUSH_FIVE = 8;
         static final int PUSH_LONG_ZERO = 9;
         static final int PUSH_LONG_ONE = 10;
         static final int PUSH_BYTE = 16;
@@ -302,8 +301,6 @@ public final class MapFramer {
         static final int SUBTRACT_LONG = 101;
         static final int MULTIPLY_INT = 104;
         static final int MULTIPLY_LONG = 105;
-        static final int DIVIDE_INT = 108;
-        static final int DIVIDE_LONG = 109;
         static final int INCREASE = 132;
         static final int INT_TO_LONG = 133;
         static final int LONG_TO_INT = 136;
@@ -317,7 +314,6 @@ public final class MapFramer {
         static final int BRANCH = 167;
         static final int RETURN_INT = 172;
         static final int RETURN_LONG = 173;
-        static final int RETURN_REFERENCE = 176;
         static final int RETURN = 177;
         static final int GET_STATIC = 178;
         static final int PUT_STATIC = 179;
@@ -431,7 +427,7 @@ public final class MapFramer {
             for (int k = 0; k < types.length; k++) {
                 types[k] = argumentType(packed, k);
             }
-            methods[methodCount] = new Method(methodCount, types, result);
+            methods[methodCount] = new Method(types, result);
             methodCount++;
             return methodCount - 1;
         }
@@ -600,7 +596,6 @@ public final class MapFramer {
     }
 
     private static final class Method {
-        final int number;
         final int[] arguments;
         final int result;
         int[] code = new int[0];
@@ -617,8 +612,7 @@ public final class MapFramer {
         /** The bits of the methods that its code calls. */
         int called;
 
-        Method(int number, int[] arguments, int result) {
-            this.number = number;
+        Method(int[] arguments, int result) {
             this.arguments = arguments;
             this.result = result;
         }
@@ -878,15 +872,15 @@ public final class MapFramer {
         }
 
         private int popSingle() {
-            int type = pop();
-            if (type == World.LONG) {
+            int type = state.pop();
+            if (type == World.TOP || type == World.LONG) {
                 fail(WRONG_VALUE);
             }
             return type;
         }
 
         private int popReference() {
-            int type = pop();
+            int type = state.pop();
             if (!World.isReference(type)) {
                 fail(WRONG_VALUE);
             }
@@ -976,7 +970,7 @@ public final class MapFramer {
         }
 
         private int popClassArray() {
-            int type = pop();
+            int type = state.pop();
             if (type != World.NULL && !World.isClassArray(type)) {
                 fail(WRONG_VALUE);
             }
@@ -1058,7 +1052,7 @@ public final class MapFramer {
                     push(World.INT);
                     break;
                 default:
-                    // of each four numbers the first one is for INTs, the second one for LONGs
+                    // the instructions that are left: the even ones take INTs, the odd ones LONGs
                     int type = (op & 1) == 0 ? World.INT : World.LONG;
                     popAs(type);
                     popAs(type);
@@ -1178,7 +1172,7 @@ public final class MapFramer {
         }
 
         private void popArray() {
-            int type = pop();
+            int type = state.pop();
             if (type != World.NULL && !World.isArray(type)) {
                 fail(WRONG_VALUE);
             }
@@ -1332,6 +1326,9 @@ public final class MapFramer {
         }
 
         private void look(int place) {
+            if (states[place] == null) {
+                return;
+            }
             // a copy: what a handler gets may change the state at this very place
             ahead.copy(states[place]);
             behind.copy(ahead);
