@@ -104,8 +104,11 @@ final class Kit {
         return text.toString();
     }
 
-    /** What a run came to: its answer, or "end 1 class 1" and the like. */
+    /** What a run came to: its answer, or "end 1 class 1" and the like, or "fault 6 at 3". */
     String run(int method, long a, long b, int fuel) {
+        if (framer.about(method, 0) != 0) {
+            return "fault " + fault(method);
+        }
         try {
             return String.valueOf(framer.run(method, a, b, fuel));
         } catch (UnsupportedOperationException e) {
