@@ -22,10 +22,11 @@ final class MatchTest {
     public static void main(String[] args) {
         for (int seed = 0; seed < WORLDS; seed++) {
             new MatchTest(seed).go();
+            new MatchTest(seed).goThroughHoles();
         }
         System.out.println(SEEN);
         for (String what : List.of("fault 0", "fault 1", "fault 2", "fault 3", "fault 4", "fault 5", "fault 6",
-                "fault 7", "fault 8", "fault 9", "end 0", "end 1", "end 2", "end 3", "end 4")) {
+                "fault 7", "fault 8", "fault 9", "fault 10", "12 handlers left", "end 0", "end 1", "end 2", "end 3", "end 4")) {
             Check.same("there was " + what, SEEN.containsKey(what), true);
         }
         Check.end("MatchTest");
@@ -57,6 +58,47 @@ final class MatchTest {
         for (int k = 0; k < methods; k++) {
             run(k);
             run(k);
+        }
+    }
+
+    /** One method with many rows of dead code, and handlers that these cut. */
+    private void goThroughHoles() {
+        List<Integer> code = new ArrayList<>();
+        List<Integer> places = new ArrayList<>();
+        int rows = 1 + random.nextInt(13);
+        for (int k = 0; k < rows; k++) {
+            add(code, places, 0, random.nextInt(4));
+            int dead = 1 + random.nextInt(2);
+            places.add(code.size());
+            code.addAll(List.of(167, 0, 3 + dead));
+            add(code, places, 0, dead);
+        }
+        add(code, places, 177, 1);
+        add(code, places, 87, 1);
+        add(code, places, 177, 1);
+        Model.Routine routine = new Model.Routine();
+        routine.result = "V";
+        routine.maxStack = 12;
+        routine.code = code.stream().mapToInt(Integer::intValue).toArray();
+        model.routines.add(routine);
+        kit.told(0, 0, routine.maxStack, 0, routine.code);
+        places.add(code.size());
+        int handlers = 1 + random.nextInt(6);
+        for (int k = 0; k < handlers; k++) {
+            int from = random.nextInt(places.size() - 1);
+            int to = from + 1 + random.nextInt(places.size() - from - 1);
+            Model.Trap trap = new Model.Trap(places.get(from), places.get(to), code.size() - 2, 1);
+            routine.traps.add(trap);
+            kit.framer.handler(0, trap.from, trap.to, trap.place, MapFramer.NONE);
+        }
+        verify(0);
+        run(0);
+    }
+
+    private static void add(List<Integer> code, List<Integer> places, int op, int times) {
+        for (int k = 0; k < times; k++) {
+            places.add(code.size());
+            code.add(op);
         }
     }
 
@@ -176,6 +218,9 @@ final class MatchTest {
         }
         if (routine.traps.size() > 6) {
             see("more than 6 handlers left");
+        }
+        if (routine.traps.size() == 12) {
+            see("12 handlers left");
         }
         if (!routine.types.isEmpty() && Arrays.stream(routine.code).filter(b -> b == 191).count() > 1) {
             see("several 191");
