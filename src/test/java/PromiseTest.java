@@ -186,6 +186,20 @@ final class PromiseTest {
         Check.illegalArgument("no argument type, and too many", () -> x.method(5, 0));
         Check.illegalArgument("no result type, and too many", () -> x.method(0, 5));
         Check.same("eight", x.count(2), 8);
+        x.feed(0);
+        Check.illegalArgument("no code of method 8", () -> coded(x, 8, 1, 0, 0));
+        Check.illegalArgument("no handler of method 8", () -> x.handler(8, 0, 1, 0, 1));
+        Check.illegalArgument("method 8 is not verified", () -> x.verify(8));
+        Check.illegalArgument("method 8 does not run", () -> x.run(8, 0, 0, 1));
+        Check.outOfBounds("nothing about method 8", () -> x.about(8, 0));
+        Check.outOfBounds("no byte of method 8", () -> x.codeAt(8, 0));
+        Check.outOfBounds("no frame of method 8", () -> x.frameAt(8, 0));
+        Check.outOfBounds("no handler of method 8", () -> x.handlerAt(8, 0, 0));
+        Check.outOfBounds("no type of method 8", () -> x.typeAt(8, 0, 0));
+        x.feed(0xB808B100);
+        x.code(0, 3, 0, 0);
+        Check.unsupported("no call of method 8", () -> x.verify(0));
+        Check.same("its fault", x.about(0, 0) + " at " + x.about(0, 1), "3 at 0");
     }
 
     /** Four bytes, the highest first, come to the tape: true; false if it would have more than 400. */
