@@ -56,7 +56,9 @@ final class Chance {
         int type = type();
         field.type = Model.typeName(type);
         field.owner = random.nextInt(model.parents.size());
-        field.isStatic = field.owner <= (isLikeJava ? 1 : 0) || model.interfaces.get(field.owner) || random.nextInt(3) == 0;
+        // RuntimeException, which is class 1 there, gets no fields
+        boolean hasNone = field.owner <= (isLikeJava ? 1 : 0) || model.interfaces.get(field.owner);
+        field.isStatic = hasNone || random.nextInt(3) == 0;
         kit.framer.field(field.owner, type, field.isStatic);
         model.fields.add(field);
     }

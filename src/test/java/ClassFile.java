@@ -98,7 +98,8 @@ final class ClassFile {
         if (frameCount > 0) {
             table.two(text("StackMapTable")).four(frames.size() + 2).two(frameCount).add(frames);
         }
-        Bytes whole = new Bytes().add(code).two(handlers.size() / 8).add(handlers).two(frameCount > 0 ? 1 : 0).add(table);
+        Bytes whole = new Bytes().add(code).two(handlers.size() / 8).add(handlers);
+        whole.two(frameCount > 0 ? 1 : 0).add(table);
         methods.two(access).two(text(name)).two(text(type)).two(1).two(text("Code")).four(whole.size()).add(whole);
         methodCount++;
     }

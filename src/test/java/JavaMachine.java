@@ -4,8 +4,8 @@ import java.util.Map;
 import java.util.TreeMap;
 
 /**
- * The methods of a MapFramer as classes of the Java machine itself. Class 0 is Object, class 1 RuntimeException (so that
- * what the Java machine throws is of it), static fields are those of Statics, and each method is in a class of its own.
+ * The methods of a MapFramer as classes of the Java machine itself. Class 0 is Object, class 1 RuntimeException (so
+ * that what the Java machine throws is of it), static fields are those of Statics, each method is in its own class.
  * Each instruction is told to Meter; operands of fields, classes and methods are longer there, so places differ.
  */
 final class JavaMachine extends ClassLoader {

@@ -121,7 +121,8 @@ final class JavaMachineTest {
 
     private String runOf(JavaMachine machine, int method, long a, long b) throws ReflectiveOperationException {
         for (Field field : machine.statics().getFields()) {
-            field.set(null, field.getType() == int.class ? (Object) 0 : field.getType() == long.class ? (Object) 0L : null);
+            Class<?> type = field.getType();
+            field.set(null, type == int.class ? (Object) 0 : type == long.class ? (Object) 0L : null);
         }
         List<String> types = chance.model.routines.get(method).arguments;
         Object[] given = new Object[types.size()];

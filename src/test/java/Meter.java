@@ -52,7 +52,8 @@ public final class Meter {
     /** Something came to a handler: one that code did not make is of a class under RuntimeException. */
     public static void come(Object thrown) {
         Class<?> type = thrown == null ? Object.class : thrown.getClass();
-        if (thrown instanceof RuntimeException && type != RuntimeException.class && type.getName().startsWith("java.")) {
+        boolean isOfJava = type.getName().startsWith("java.") && type != RuntimeException.class;
+        if (isOfJava && thrown instanceof RuntimeException) {
             MADE_BY_MACHINE.add(thrown);
         }
     }

@@ -35,6 +35,8 @@ final class TermsTest {
         differentStacks();
         lookedAtAgain();
         uninitialized();
+        uninitializedIsNoReference();
+        beginUnderHandler();
         takenNull();
         lengthOf();
         results();
@@ -639,6 +641,49 @@ final class TermsTest {
         due("6 at 0", 4, 1, 25, 0, 187, 1, 58, 0, 167, 255, 250);
         due("9 at 0", 4, 0, 187, 1, 167, 255, 254);
         due("9 at 1", 4, 0, 1, 187, 1, 95, 87, 167, 255, 252);
+    }
+
+    /** REFERENCES are NULL, objects, arrays: where one is wanted, UNINITIALIZED is none, but for 25 and 58. */
+    private static void uninitializedIsNoReference() {
+        int[] made = {187, 1};
+        for (int op : new int[] {198, 199}) {
+            due("6 at 2", 4, 1, join(made, op, 0, 3, 177));
+        }
+        for (int op : new int[] {165, 166}) {
+            due("6 at 3", 4, 1, 1, 187, 1, op, 0, 3, 177);
+            due("6 at 3", 4, 1, join(made, 1, op, 0, 3, 177));
+            due("6 at 3", 4, 1, join(made, 89, op, 0, 3, 177));
+        }
+        for (int op : new int[] {192, 193}) {
+            due("6 at 2", 4, 1, join(made, op, 0, 87, 177));
+        }
+        due("6 at 2", 4, 1, join(made, 190, 87, 177));
+        due("6 at 2", 4, 1, join(made, 191));
+        due("6 at 6", 4, 1, 3, 189, 0, 3, 187, 1, 83, 177);
+        Check.same("176", fault(4, 1, 32, join(made, 176)), "6 at 2");
+        due("none", 4, 1, join(made, 58, 0, 25, 0, 87, 177));
+        Kit kit = new Kit();
+        kit.framer.field(1, 1, false);
+        kit.framer.field(1, 32, true);
+        kit.told(32, 0, 0, 1, 177);
+        Check.same("180", kit.fault(kit.made(0, 0, 4, 1, join(made, 180, 0, 87, 177))), "6 at 2");
+        Check.same("181", kit.fault(kit.made(0, 0, 4, 1, join(made, 3, 181, 0, 177))), "6 at 3");
+        Check.same("179", kit.fault(kit.made(0, 0, 4, 1, join(made, 179, 1, 177))), "6 at 2");
+        Check.same("184", kit.fault(kit.made(0, 0, 4, 1, join(made, 184, 0, 177))), "6 at 2");
+    }
+
+    /** Its place gets the locals as they are ahead of the instruction: of 183, too, those alone. */
+    private static void beginUnderHandler() {
+        int[] code = {187, 1, 89, 58, 0, 183, 1, 0, 177, 177};
+        int[][] ranges = {{5, 7}, {5, 8}, {7, 8}};
+        String[] due = {"1000 | 33", "0 | 33", "33 | 33"};
+        for (int k = 0; k < ranges.length; k++) {
+            Kit kit = new Kit();
+            int method = kit.told(0, 0, 2, 1, code);
+            kit.framer.handler(method, ranges[k][0], ranges[k][1], 9, 1);
+            kit.verify(method);
+            Check.same("from " + ranges[k][0] + " to " + ranges[k][1], kit.types(method, 9), due[k]);
+        }
     }
 
     /** Of NULL: 46, 47, 50, 79, 80, 83, 190 take it as the array that they want (50 pushes NULL then); 191 takes it. */
